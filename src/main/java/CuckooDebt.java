@@ -409,14 +409,15 @@ public final class CuckooDebt {
             number = 0;
             keyword = NONE;
             word = 0;
+            char sign = next < length ? signs[next] : 0;
             if (next >= length) {
                 token = END;
-            } else if (isLetter(signs[next])) {
+            } else if (sign >= 'a' && sign <= 'z') {
                 readWord();
-            } else if (isDigit(signs[next])) {
+            } else if (sign >= '0' && sign <= '9') {
                 readNumber();
             } else {
-                token = isSign(signs[next]) ? signs[next] : NO_TOKEN;
+                token = isSign(sign) ? sign : NO_TOKEN;
                 next++;
             }
             return true;
@@ -427,7 +428,7 @@ public final class CuckooDebt {
         }
 
         private void readWord() {
-            while (next < length && isLetter(signs[next])) {
+            while (next < length && signs[next] >= 'a' && signs[next] <= 'z') {
                 word = (word << LETTER_BITS) + (signs[next] - 'a' + 1);
                 next++;
             }
@@ -440,19 +441,11 @@ public final class CuckooDebt {
         }
 
         private void readNumber() {
-            while (next < length && isDigit(signs[next])) {
+            while (next < length && signs[next] >= '0' && signs[next] <= '9') {
                 number = number * 10 + (signs[next] - '0');
                 next++;
             }
             token = next - place <= MOST_DIGITS ? NUMBER : NO_TOKEN;
-        }
-
-        private static boolean isLetter(char sign) {
-            return sign >= 'a' && sign <= 'z';
-        }
-
-        private static boolean isDigit(char sign) {
-            return sign >= '0' && sign <= '9';
         }
 
         private static boolean isSign(char sign) {
@@ -641,6 +634,10 @@ public final class CuckooDebt {
     /** Reads an E into a land's code. */
     private static final class LawReader {
         static final int MOST_DEPTH = 5;
+        static final int JOINED = 0;
+        static final int COMPARED = 1;
+        static final int SUMMED = 2;
+        static final int PARTS = 4;
 
         private final Tape tape;
         private final Land land;
@@ -652,69 +649,39 @@ public final class CuckooDebt {
             this.land = land;
         }
 
-        /** An E; the depth is how many not and ( ) it lies within. */
-        boolean readTests(int depth) {
-            if (!readTest(depth)) {
+        /** An E from the level 0 on; the depth is how many not and ( ) it lies within. */
+        boolean readLevel(int level, int depth) {
+            if (level >= PARTS) {
+                return readPart(depth);
+            }
+            if (!readLevel(level + 1, depth)) {
                 return false;
             }
-            for (int i = 0; i < MOST_SIGNS && isJoin(); i++) {
-                int step = tape.keyword == Tape.AND ? Law.AND : Law.OR;
+            int step = stepHere(level);
+            for (int i = 0; i < MOST_SIGNS && step != 0; i++) {
                 tape.step();
-                if (!readTest(depth)) {
+                if (!readLevel(level + 1, depth)) {
                     return false;
                 }
                 land.addStep(step);
+                // A TEST compares once; all else goes on from the left.
+                step = level == COMPARED ? 0 : stepHere(level);
             }
             return true;
         }
 
-        private boolean isJoin() {
-            return tape.keyword == Tape.AND || tape.keyword == Tape.OR;
-        }
-
-        private boolean readTest(int depth) {
-            if (!readSum(depth)) {
-                return false;
+        /** The step of what joins two of the next level here; 0: nothing of this level. */
+        private int stepHere(int level) {
+            switch (level) {
+                case JOINED:
+                    return tape.keyword == Tape.AND ? Law.AND : tape.keyword == Tape.OR ? Law.OR : 0;
+                case COMPARED:
+                    return tape.token == '<' ? Law.LESS : tape.token == '=' ? Law.SAME : 0;
+                case SUMMED:
+                    return tape.token == '+' ? Law.PLUS : tape.token == '-' ? Law.MINUS : 0;
+                default:
+                    return tape.token == '*' ? Law.TIMES : 0;
             }
-            if (tape.token != '<' && tape.token != '=') {
-                return true;
-            }
-            int step = tape.token == '<' ? Law.LESS : Law.SAME;
-            tape.step();
-            if (!readSum(depth)) {
-                return false;
-            }
-            land.addStep(step);
-            return true;
-        }
-
-        private boolean readSum(int depth) {
-            if (!readProduct(depth)) {
-                return false;
-            }
-            for (int i = 0; i < MOST_SIGNS && (tape.token == '+' || tape.token == '-'); i++) {
-                int step = tape.token == '+' ? Law.PLUS : Law.MINUS;
-                tape.step();
-                if (!readProduct(depth)) {
-                    return false;
-                }
-                land.addStep(step);
-            }
-            return true;
-        }
-
-        private boolean readProduct(int depth) {
-            if (!readPart(depth)) {
-                return false;
-            }
-            for (int i = 0; i < MOST_SIGNS && tape.token == '*'; i++) {
-                tape.step();
-                if (!readPart(depth)) {
-                    return false;
-                }
-                land.addStep(Law.TIMES);
-            }
-            return true;
         }
 
         private boolean readPart(int depth) {
@@ -736,7 +703,7 @@ public final class CuckooDebt {
             }
             if (tape.token == '(') {
                 tape.step();
-                if (!readTests(depth + 1)) {
+                if (!readLevel(JOINED, depth + 1)) {
                     return false;
                 }
                 return tape.token == ')' ? tape.step() : tape.fail(Reader.WRONG_TOKEN);
@@ -954,7 +921,7 @@ public final class CuckooDebt {
             law.isTold = true;
             law.from = land.codeLength;
             laws.owing = law == land.owe;
-            if (!laws.readTests(0)) {
+            if (!laws.readLevel(LawReader.JOINED, 0)) {
                 return false;
             }
             law.to = land.codeLength;
@@ -1192,32 +1159,44 @@ public final class CuckooDebt {
                 }
                 nearest[person] = NONE;
                 gap[person] = reach[slot] + 1;
-                for (int other = 0; other < land.people; other++) {
-                    int away = far(here, at[other * HOURS + hour]);
-                    if (other != person && away < gap[person]) {
-                        nearest[person] = other;
-                        gap[person] = away;
-                    }
+            }
+            // Each one meets the others by number here, so that of equal ones the least stays.
+            for (int person = 0; person < land.people; person++) {
+                for (int other = person + 1; other < land.people; other++) {
+                    int away = far(at[person * HOURS + hour], at[other * HOURS + hour]);
+                    meet(person, other, away);
+                    meet(other, person, away);
                 }
             }
         }
 
+        private void meet(int person, int other, int away) {
+            if (away < gap[person]) {
+                nearest[person] = other;
+                gap[person] = away;
+            }
+        }
+
         int creditor(int bird, int hour, int person) {
-            boolean hears = far(at[person * HOURS + hour], land.bush[bird]) <= land.hear;
-            return hears && land.kind[person] != Land.DEAF ? nearest[person] : NONE;
+            int away = far(at[person * HOURS + hour], land.bush[bird]);
+            return hears(person, away) ? nearest[person] : NONE;
+        }
+
+        private boolean hears(int person, int away) {
+            return away <= land.hear && land.kind[person] != Land.DEAF;
         }
 
         int pence(int bird, int hour, int person, int times) {
-            if (times <= 0 || creditor(bird, hour, person) == NONE) {
+            int away = far(at[person * HOURS + hour], land.bush[bird]);
+            if (times <= 0 || nearest[person] == NONE || !hears(person, away)) {
                 return 0;
             }
-            int far = far(at[person * HOURS + hour], land.bush[bird]);
             int near = gap[person];
-            int key = ((hour * (MOST_TIMES + 1) + times) * FARS + far) * FARS + near;
+            int key = ((hour * (MOST_TIMES + 1) + times) * FARS + away) * FARS + near;
             int slot = key % RATES;
             if (rateKey[slot] != key) {
                 rateKey[slot] = key;
-                rate[slot] = within(land.owe.value(hour, far, near, times), MOST_RATE);
+                rate[slot] = within(land.owe.value(hour, away, near, times), MOST_RATE);
             }
             int whole = rate[slot] * times;
             switch (land.kind[person]) {
@@ -1305,7 +1284,9 @@ public final class CuckooDebt {
         }
 
         private static int far(int a, int b) {
-            return Math.abs(a % ROW - b % ROW) + Math.abs(a / ROW - b / ROW);
+            int x = a % ROW - b % ROW;
+            int y = a / ROW - b / ROW;
+            return (x < 0 ? -x : x) + (y < 0 ? -y : y);
         }
     }
 

@@ -390,7 +390,6 @@ public final class CuckooDebt {
 
         void rewind() {
             next = 0;
-            fault = 0;
             step();
         }
 
@@ -1124,10 +1123,9 @@ public final class CuckooDebt {
         Debts(Land land, Deeds deeds) {
             this.land = land;
             this.deeds = deeds;
-            Arrays.fill(reach, NONE);
-            Arrays.fill(rateKey, NONE);
         }
 
+        /** Of other hills the laws answer otherwise. At first nobody is there to ask them. */
         void forget() {
             Arrays.fill(reach, NONE);
             Arrays.fill(rateKey, NONE);
@@ -1298,6 +1296,7 @@ public final class CuckooDebt {
         private final Land land;
         private final Deeds deeds;
         private final Debts debts;
+        // NONE as long as nothing has been tried.
         int bestCell;
         int bestBalance;
         int bestSet;
@@ -1316,12 +1315,12 @@ public final class CuckooDebt {
             debts.allAsTold();
             int set = 1 << person;
             int outside = gainOutside(set, from, to);
-            clearBest();
+            bestCell = NONE;
             tryCells(set, from, to, outside);
         }
 
         void picnicOf(int many, int from, int to) {
-            clearBest();
+            bestCell = NONE;
             for (int set = 0; set < 1 << land.people; set++) {
                 if (Integer.bitCount(set) == many) {
                     debts.allAsTold();
@@ -1354,7 +1353,7 @@ public final class CuckooDebt {
                 int set = 1 << person;
                 int now = debts.gainOf(set, from, to, deeds.shot);
                 System.arraycopy(debts.at, person * HOURS, path, 0, HOURS);
-                clearBest();
+                bestCell = NONE;
                 tryCells(set, from, to, 0);
                 if (bestBalance > now) {
                     debts.put(set, from, to, bestCell);
@@ -1364,12 +1363,6 @@ public final class CuckooDebt {
                 }
             }
             return moved;
-        }
-
-        private void clearBest() {
-            bestCell = NONE;
-            bestBalance = 0;
-            bestSet = 0;
         }
 
         private int gainOutside(int set, int from, int to) {

@@ -18,6 +18,8 @@ public final class PromisesTest {
         hillsLaws();
         hillsChange();
         values();
+        longLaws();
+        manyAnswers();
         reachOfFog();
         people();
         places();
@@ -205,6 +207,8 @@ public final class PromisesTest {
         fault(4, HEAD + "person qq plain at 3 @3");
         fault(1, HEAD + "person qq plain at 3 @x");
         fault(1, HEAD + "person qq @old");
+        fault(1, HEAD + "person qq @hear");
+        fault(1, HEAD + "person qq @not");
         fault(1, HEAD + "person qq plain at 3 2 purse @10000");
         fault(4, HEAD + "go pp hour @0");
         fault(4, HEAD + "go pp hour @24");
@@ -239,6 +243,8 @@ public final class PromisesTest {
             fault(2, HEAD + "go @" + word);
             fault(2, HEAD + "call @" + word);
         }
+        fine(HEAD + "person q plain at 0 0 purse 0 ; person aa plain at 0 0 purse 0 ; bird ba at 0 0 ; bird zzzzzzzz at 0 0 ; bird zzzzzzz at 0 0 ;");
+        fault(3, HEAD + "bird zzzzzzzz at 0 0 ; bird zzzzzzzy at 0 0 ; person @zzzzzzzz");
         fault(3, HEAD + "person @pp");
         fault(3, HEAD + "person @bb");
         fault(3, HEAD + "bird @pp");
@@ -431,7 +437,75 @@ public final class PromisesTest {
         value("times", 1);
         value("hour * 10 + far * 3 - near + times", 58);
         value("1+".repeat(80) + "1", 81);
+        value("1 = 1 + 1 * 1", 0);
+        String waiting = "0 or 1 = 0 + 1 * ";
+        value(waiting + "(" + waiting + "(" + waiting + "(" + waiting + "(" + waiting + "1))))", 1);
+        value(waiting + "(" + waiting + "(" + waiting + "(" + waiting + "(" + waiting + "2))))", 0);
         value("far = 3 and near = 2 and hour = 5 and times = 1", 1);
+    }
+
+    /** As long a law as a tape can hold, and many of them one after the other. */
+    private static void longLaws() {
+        String head = "hills 2 2;person a plain at 0 0 purse 0;person b deaf at 0 0 purse 0;bird c at 0 0;call c hour 0 times 1;";
+        CuckooDebt x = new CuckooDebt();
+        for (int i = 0; i < 5; i++) {
+            String start = head + "owe " + (90 + i);
+            int pairs = (1000 - start.length() - 1) / 2;
+            String text = start + "+1-1".repeat(pairs / 2) + (pairs % 2 == 1 ? "+2" : "") + ";";
+            due("signs", text.length() > 998 && text.length() <= 1000, true);
+            due("a long law", Check.read(x, text), 0);
+            due("what it comes to", x.entry(0, 0, 0, false), 90 + i + (pairs % 2 == 1 ? 2 : 0));
+            String fog = head + "owe 5" + "*1".repeat(200) + ";fog 1" + "-0".repeat(200) + ";";
+            due("two long laws", Check.read(x, fog), 0);
+            due("what owe comes to", x.entry(0, 0, 0, false), 5);
+        }
+    }
+
+    /** Laws are asked anew for each far, near, times and hour, and for each text. */
+    private static void manyAnswers() {
+        for (String law : new String[] {"far", "near", "times", "hour", "far * 3 + near * 2 + times + hour"}) {
+            CuckooDebt x = new CuckooDebt();
+            Oracle oracle = new Oracle();
+            String text = "hills 8 8;person a plain at 0 0 purse 0;person b plain at 7 7 purse 0;person c plain at 0 1 purse 0;"
+                    + "person d deaf at 7 7 purse 0;go b hour 6 at 0 0;go d hour 6 at 7 7;go c hour 6 at 7 6;go a hour 12 at 7 7;go c hour 12 at 6 7;"
+                    + "bird k at 0 0;bird l at 7 7;bird m at 3 4;owe " + law + ";";
+            tellBoth(x, oracle, text);
+            for (int hour = 0; hour < 24; hour += 3) {
+                for (int bird = 0; bird < 3; bird++) {
+                    for (int times : new int[] {9, 1, 5}) {
+                        due("call", x.call(bird, hour, times), oracle.call(bird, hour, times));
+                        for (int person = 0; person < 4; person++) {
+                            due("entry by " + law, x.entry(bird, hour, person, false), oracle.entry(bird, hour, person, false));
+                        }
+                    }
+                }
+            }
+            tellBoth(x, oracle, text.replace("owe ", "owe 1 + ") + "call k hour 0 times 9;fog hour+1;");
+            for (int person = 0; person < 4; person++) {
+                due("entry by other hills", x.entry(0, 0, person, false), oracle.entry(0, 0, person, false));
+                due("entry by other hills", x.entry(0, 0, person, true), oracle.entry(0, 0, person, true));
+            }
+        }
+        // in one hour by one number of times: 14 from the other and 3 from the bush, 0 and 4
+        CuckooDebt x = Check.made("hills 8 8;person a plain at 0 0 purse 0;person b deaf at 7 7 purse 0;bird k at 3 0;bird l at 3 7;"
+                + "call k hour 0 times 1;call l hour 0 times 1;owe far + near;");
+        due("3 + 14", x.entry(0, 0, 0, false), 17);
+        due("10 + 14", x.entry(1, 0, 0, false), 24);
+        CuckooDebt y = Check.made("hills 8 8;person a plain at 0 0 purse 0;person b plain at 7 7 purse 0;person c plain at 7 7 purse 0;"
+                + "go a hour 1 at 4 0;go b hour 1 at 4 0;bird k at 3 0;bird l at 3 7;bird m at 4 6;call m hour 0 times 1;call l hour 0 times 1;call k hour 0 times 1;owe far + near;");
+        due("10 from m, 14 from b", y.entry(2, 0, 0, false), 24);
+        due("11 from k, 0 from c", y.entry(0, 0, 1, false), 11);
+        due("3 from k, 14 from b", y.entry(0, 0, 0, false), 17);
+        due("4 from l, 0 from c", y.entry(1, 0, 1, false), 4);
+    }
+
+    private static void tellBoth(CuckooDebt x, Oracle oracle, String text) {
+        for (int from = 0; from < text.length(); from += 24) {
+            long[] bytes = Check.packed(text, from);
+            due("feed", x.feed(bytes[0], bytes[1], bytes[2]), oracle.feed(bytes[0], bytes[1], bytes[2]));
+        }
+        due(text, x.hills(), 0);
+        due(text, oracle.hills(), 0);
     }
 
     /** One who stands 3 from the bush and 2 from the other, in hour 5. */
@@ -788,6 +862,17 @@ public final class PromisesTest {
         due("a ring", y.played(0, 0, 1), 0);
         due("a", y.played(0, 0, 2), 0);
         due("b", y.played(0, 0, 3), 9);
+        // b walked at the beginning: to stand still where it set out from is not the same
+        String walk = "hills 2 2;person a plain at 0 0 purse 0;person b rich at 1 1 purse 0;go b hour 1 at 0 1;go b hour 2 at 1 1;"
+                + "bird k at 0 0;call k hour 0 times 1;fog 1;";
+        CuckooDebt v = Check.made(walk);
+        for (int to = 1; to < 4; to++) {
+            due("rounds", v.played(0, to, 0), 3);
+            due("a ring", v.played(0, to, 1), 0);
+            due("a", v.played(0, to, 2), 1);
+            due("b", v.played(0, to, 3), 8);
+        }
+        due("it does not walk in the first hour", v.played(0, 0, 0), 2);
         // each owes by how far it is from the bush: all go there, then rest
         CuckooDebt w = Check.made("hills 3 3;person a plain at 0 0 purse 0;person b child at 0 1 purse 0;go a hour 4 at 2 2;"
                 + "bird k at 2 1;call k hour 2 times 2;call k hour 4 times 2;owe far;");
@@ -822,13 +907,9 @@ public final class PromisesTest {
         };
         int[][] ends = {{50, 0}, {35, 1}};
         for (int i = 0; i < texts.length; i++) {
-            CuckooDebt x = Check.made(texts[i]);
+            CuckooDebt x = new CuckooDebt();
             Oracle oracle = new Oracle();
-            for (int from = 0; from < texts[i].length(); from += 24) {
-                long[] bytes = Check.packed(texts[i], from);
-                oracle.feed(bytes[0], bytes[1], bytes[2]);
-            }
-            oracle.hills();
+            tellBoth(x, oracle, texts[i]);
             due("rounds", x.played(0, 1, 0), ends[i][0]);
             due("rest or ring", x.played(0, 1, 1), ends[i][1]);
             for (int what = 0; what < 8; what++) {
@@ -1047,6 +1128,9 @@ public final class PromisesTest {
         due("a has paid", y.june(0), 0);
         due("b", y.june(1), 12);
         due("c", y.june(2), 0);
+        Check.read(x, "hills 2 2;person a plain at 0 0 purse 9;person b deaf at 0 0 purse 0;bird k at 0 0;call k hour 0 times 1;owe 10;");
+        due("for a penny", x.june(-1), 1);
+        due("all paid but that", x.june(1), 9);
         CuckooDebt z = Check.made("hills 2 2;person a plain at 0 0 purse 0;person b plain at 0 0 purse 0;bird k at 0 0;call k hour 0 times 9;owe 99;");
         due("of two only the difference", z.june(-1), 0);
         // a comes to owe b and c alike: b is paid first

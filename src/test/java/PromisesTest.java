@@ -873,6 +873,13 @@ public final class PromisesTest {
             due("b", v.played(0, to, 3), 8);
         }
         due("it does not walk in the first hour", v.played(0, 0, 0), 2);
+        // b walks at the beginning, then stands at the first cell; a, who is paid by how far b is, goes to 1, then to 9
+        CuckooDebt u = Check.made("hills 2 2;person a deaf at 0 0 purse 0;person b plain at 0 1 purse 0;go b hour 1 at 1 1;"
+                + "bird k at 0 0;call k hour 0 times 1;owe far * 3 + near;");
+        int[] ends = {3, 1, 9, 0};
+        for (int what = 0; what < ends.length; what++) {
+            due("played " + what, u.played(0, 1, what), ends[what]);
+        }
         // each owes by how far it is from the bush: all go there, then rest
         CuckooDebt w = Check.made("hills 3 3;person a plain at 0 0 purse 0;person b child at 0 1 purse 0;go a hour 4 at 2 2;"
                 + "bird k at 2 1;call k hour 2 times 2;call k hour 4 times 2;owe far;");

@@ -18,6 +18,10 @@ final class Check {
         }
     }
 
+    static int checks() {
+        return checks;
+    }
+
     static int wrongs() {
         return wrong;
     }

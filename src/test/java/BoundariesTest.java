@@ -9,6 +9,7 @@ public final class BoundariesTest {
         DebtBoundaries.all();
         GameBoundaries.all();
         SongBoundaries.all();
+        FullBoundaries.all();
         Boundary.end();
         Check.end("BoundariesTest");
     }

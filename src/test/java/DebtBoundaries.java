@@ -442,6 +442,15 @@ final class DebtBoundaries extends Boundary {
                 "undo() = true", "calls(0, 8) = 5", "undo() = true", "bird(1, 1) = 0", "undo() = true", "calls(0, 8) = 2", "undo() = false", "netted() = 40");
         // what was undone is not done again, and something else may come instead
         run.due("call(0, 8, 7) = true", "undo() = true", "shoot(0, true) = true", "count(7) = 1", "undo() = true", "calls(0, 8) = 2", "undo() = false");
+        // other times for one call, again and again: each time what was before comes back
+        Run times = run(PAIR + "call k hour 0 times 9;");
+        for (int i = 0; i < 25; i++) {
+            times.due("call(0, 0, " + (i * 2 % 7 + 1) + ") = true");
+        }
+        for (int i = 23; i >= 4; i--) {
+            times.due("undo() = true", "calls(0, 0) = " + (i * 2 % 7 + 1));
+        }
+        times.due("undo() = false");
         // twenty shots fill it too, and push out what was before
         run.due("call(1, 0, 1) = true");
         for (int i = 0; i < 20; i++) {

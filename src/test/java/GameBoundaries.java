@@ -151,7 +151,9 @@ final class GameBoundaries extends Boundary {
         sentence(15, "or behind a round all are in the same CELLS in these hours as behind an earlier one or at the beginning");
         ends(run(RING), 0, 0, 2, 0, 0, 9);
         ends(run(RING), 0, 23, 2, 0, 0, 9);
-        ends(run(RING), 1, 23, 1, 1, 0, 9);
+        Run both = run(RING);
+        ends(both, 1, 23, 1, 1, 0, 9);
+        ends(both, 0, 0, 2, 0, 0, 9);
         // from elsewhere: the beginning never comes back, what was behind the first round does
         ends(run(RING.replace("rich at 1 1", "rich at 0 0")), 0, 0, 3, 0, 0, 9);
         // b walked at the beginning: to stand still where it set out from is not the same

@@ -346,6 +346,8 @@ final class HillsBoundaries extends Boundary {
         fault(3, people(6) + "bird @af at 0 0;");
         fault(3, birds(4) + "bird @ad at 0 0;");
         fault(3, birds(5) + "person @ae plain at 0 0 purse 0;");
+        run("hills 2 2;person q plain at 0 0 purse 0;person aa plain at 0 0 purse 0;person ab plain at 0 0 purse 0;bird ba at 0 0;bird aaa at 0 0;bird b at 1 1;"
+                + "go aa hour 1 at 1 1;call b hour 0 times 2;").due("count(2) = 3", "place(0, 1) = 0", "place(1, 1) = 9", "calls(2, 0) = 2");
         run(HEAD + "person p plain at 0 0 purse 0;person ppp plain at 0 0 purse 0;bird b at 0 0;bird bbb at 0 0;").due("count(2) = 3", "count(3) = 3");
     }
 
@@ -423,10 +425,26 @@ final class HillsBoundaries extends Boundary {
         value("9 - 2 + 1", 8);
         value("1 + 2 * 3", 7);
         value("0" + "+1".repeat(90), 90);
+        longLaws();
         law(1, "1 + @;");
         law(1, "@+ 1;");
         law(1, "@- 1;");
         law(1, "1 - @- 1;");
+    }
+
+    /** As long a law as the tape can hold, again and again. */
+    private static void longLaws() {
+        String head = "hills 2 2;person a plain at 0 0 purse 0;person b deaf at 0 0 purse 0;bird c at 0 0;call c hour 0 times 1;";
+        Run run = anew();
+        for (int i = 0; i < 4; i++) {
+            String start = head + "owe " + (90 + i);
+            int pairs = (1000 - start.length() - 1) / 4;
+            run.hills(start + "+1-1".repeat(pairs) + ";").due("entry(0, 0, 0, false) = " + (90 + i));
+            run.hills(head + "owe 5" + "*1".repeat(200) + ";fog 1" + "-0".repeat(200) + ";").due("entry(0, 0, 0, false) = 5");
+        }
+        String waiting = "0 or 1 = 0 + 1 * ";
+        value(waiting + "(" + waiting + "(" + waiting + "(" + waiting + "(" + waiting + "1))))", 1);
+        value(waiting + "(" + waiting + "(" + waiting + "(" + waiting + "(" + waiting + "2))))", 0);
     }
 
     private static void products() {
@@ -503,8 +521,31 @@ final class HillsBoundaries extends Boundary {
         run(text + "near;").due("entry(0, 0, 0, false) = " + 14 * 9, "entry(1, 0, 0, false) = 14");
         run(text + "times;").due("entry(0, 0, 0, false) = 81", "entry(1, 0, 0, false) = 1");
         run(text.replace("deaf at 7 7", "deaf at 0 0") + "near;").due("entry(0, 0, 0, false) = 0");
+        manyAnswers(0, 0, 7, 7);
+        manyAnswers(7, 7, 1, 6);
+        manyAnswers(2, 5, 3, 3);
         for (String fact : new String[] {"x", "y"}) {
             fault(1, HEAD + "owe @" + fact + ";");
+        }
+    }
+
+    /** The law is asked anew for each hour, far, near and times: a walks from its cell to 0 0, b from its own to 7 0. */
+    private static void manyAnswers(int ax, int ay, int bx, int by) {
+        int[][] bushes = {{0, 0}, {7, 7}, {3, 4}};
+        Run run = run("hills 8 8;person a plain at " + ax + " " + ay + " purse 0;person b deaf at " + bx + " " + by + " purse 0;"
+                + "go a hour 12 at 0 0;go b hour 16 at 7 0;bird k at 0 0;bird l at 7 7;bird m at 3 4;owe far * 3 + near * 2 + times + hour;");
+        for (int hour : new int[] {0, 1, 11, 12, 15, 16, 22, 23}) {
+            int x = hour < 12 ? ax : 0;
+            int y = hour < 12 ? ay : 0;
+            int near = Math.abs(x - (hour < 16 ? bx : 7)) + Math.abs(y - (hour < 16 ? by : 0));
+            for (int bird = 0; bird < bushes.length; bird++) {
+                int far = Math.abs(x - bushes[bird][0]) + Math.abs(y - bushes[bird][1]);
+                for (int times : new int[] {9, 1, 5, 2}) {
+                    int pence = Math.min(99, far * 3 + near * 2 + times + hour) * times;
+                    run.due("call(" + bird + ", " + hour + ", " + times + ") = true", "entry(" + bird + ", " + hour + ", 0, false) = " + pence);
+                }
+                run.first("call(" + bird + ", " + hour + ", 0)");
+            }
         }
     }
 
@@ -517,6 +558,17 @@ final class HillsBoundaries extends Boundary {
         String corner = "hills 8 8;person a plain at 7 0 purse 0;person b plain at 0 7 purse 0;bird c at 0 0;call c hour 0 times 1;fog ";
         run(corner + "x * 2;").due("entry(0, 0, 0, true) = 1", "entry(0, 0, 1, true) = -1");
         run(corner + "y * 2;").due("entry(0, 0, 0, true) = -1", "entry(0, 0, 1, true) = 0");
+        // in each hour at one corner, and at the other one in the next
+        StringBuilder walk = new StringBuilder("hills 8 8;person a plain at 7 7 purse 0;person b deaf at 3 3 purse 0;bird c at 0 0;fog x + y - hour + 1;");
+        for (int hour = 5; hour < 24; hour++) {
+            walk.append("go a hour ").append(hour).append(hour % 2 == 0 ? " at 7 7;" : " at 0 0;");
+        }
+        Run walker = run(walk.toString());
+        for (int hour = 23; hour >= 0; hour--) {
+            boolean isFar = hour < 5 || hour % 2 == 0;
+            boolean sees = isFar ? 14 - hour + 1 >= 8 : 1 - hour >= 6;
+            walker.due("call(0, " + hour + ", 1) = true", "entry(0, " + hour + ", 0, true) = " + (sees ? 1 : -1));
+        }
         for (String fact : new String[] {"far", "near", "times"}) {
             fault(1, HEAD + "fog @" + fact + ";");
         }
@@ -540,6 +592,11 @@ final class HillsBoundaries extends Boundary {
         value("9 = 9", 1);
         value("9 = 2", 0);
         value("( 2 < 9 ) * 10 + ( 5 or 6 ) * 5 + not 0", 16);
+        value("( 0 or 0 ) + 3", 3);
+        value("( 7 and 0 ) + 3", 3);
+        value("( 9 < 2 ) + 3", 3);
+        value("( 9 = 2 ) + 3", 3);
+        value("not 7 + 3", 3);
     }
 
     private static void whatIsNotNought() {
@@ -781,6 +838,11 @@ final class HillsBoundaries extends Boundary {
                 "mark(2, true) = false", "mark(3, true) = false", "balance(0) = -3");
         run.hills("hills 2 2;").due("count(0) = 2", "count(1) = 2", "count(2) = 0", "count(3) = 0", "count(4) = 0", "person(0, 0) = -1",
                 "bird(0, 0) = -1", "calls(0, 2) = -1", "netted() = 0", "june(0) = -2");
+        // other laws hold for the same hour, cells and times
+        String law = "hills 5 4;person a plain at 4 3 purse 3;person b deaf at 4 3 purse 4;bird c at 0 0;call c hour 23 times 3;owe far + times;fog 0;";
+        run.hills(law).due("entry(0, 23, 0, false) = 30").hills(law.replace("far + times", "far + 4")).due("entry(0, 23, 0, false) = 33");
+        run.hills(law.replace("b deaf at 4 3", "b deaf at 3 3")).due("entry(0, 23, 0, true) = -1").hills(law.replace("b deaf at 4 3", "b deaf at 3 3").replace("fog 0", "fog 1"))
+                .due("entry(0, 23, 0, true) = 1");
         // fewer people and birds than before, then as many again: nothing of the first comes back
         run.hills(text.replace("plain", "shy").replace(";call c hour 2 times 3;", ";call d hour 0 times 1;"))
                 .due("calls(0, 2) = 0", "calls(1, 0) = 1", "count(4) = 1", "person(0, 0) = 4", "count(6) = 0");

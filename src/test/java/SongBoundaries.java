@@ -57,6 +57,9 @@ final class SongBoundaries extends Boundary {
         run(PENNY).due("sang(0) = 6", "sang(23) = 6", "told(1, 1) = true", "sang(0) = 0", "sang(23) = 0");
         // 2 by each of k, 8 by each of l in hour 9, 4 and 6 in others
         run(THREE).due("told(1, 12) = true", "sang(8) = 2", "sang(9) = 1", "song(9, 0, 0) = 2", "song(9, 0, 1) = 1", "sang(7) = 2", "sang(10) = 1");
+        // b is there till hour 5: whom a sees, and what it owes, is by the hour that is asked for
+        run(PENNY.replace("bird k", "go b hour 5 at 1 1;bird k") + "fog 0;call k hour 0 times 2;call k hour 5 times 3;").due("told(0, 2) = true", "wooden(0) = 1", "wooden(1) = 0", "sang(5) = 0",
+                "sang(4) = 1", "sang(23) = 0", "song(4, 0, 0) = 2", "song(5, 0, 0) = -1", "told(0, 0) = true", "sang(5) = 6", "sang(4) = 1", "wooden(1) = 1");
         sentence(20, "NONE: no such hour.");
         run(PENNY).changesNothing("sang(-1) = -1", "sang(24) = -1", "sang(" + GREAT + ") = -1", "sang(" + SMALL + ") = -1", "sang(0) = 6", "sang(23) = 6");
     }
@@ -143,6 +146,9 @@ final class SongBoundaries extends Boundary {
         run(PENNY + "bird l at 1 1;bird m at 0 0;call k hour 0 times 1;call l hour 0 times 1;hear 1;").due("told(0, 1) = true", "wooden(0) = 4", "wooden(1) = 0", "told(0, 0) = true",
                 "wooden(0) = 4", "wooden(1) = 1");
         anew().due("wooden(0) = 1", "wooden(1) = 0");
+        // by k alone it owes in the first hours, by l in the last: whom it sees is by the hour
+        run(PENNY.replace("bird k", "go b hour 5 at 1 1;bird k") + "bird l at 0 0;fog 0;call k hour 4 times 3;call k hour 5 times 9;call l hour 3 times 2;call l hour 23 times 9;")
+                .due("owed(0, 1) = 5", "told(0, 5) = true", "wooden(1) = 0", "told(0, 3) = true", "wooden(0) = 1", "wooden(1) = 2", "sang(0) = 4", "told(0, 2) = true", "wooden(1) = 1");
         sentence(22, "NONE: another what.");
         run(THREE).changesNothing("wooden(-1) = -1", "wooden(2) = -1", "wooden(" + GREAT + ") = -1", "wooden(" + SMALL + ") = -1", "wooden(0) = 4", "wooden(1) = 0");
     }
@@ -226,6 +232,9 @@ final class SongBoundaries extends Boundary {
         run.due("mark(3, true) = true", "calls(0, 3) = 3", "bird(0, 1) = 0", "bird(1, 1) = 1", "count(5) = 1", "count(6) = 1", "wooden(0) = 0", "told(2, -1) = true", "wooden(0) = 2");
         run.due("mark(0, true) = true", "calls(0, 3) = 4", "bird(0, 1) = 1", "bird(1, 1) = 0", "count(6) = 2", "mark(1, true) = true", "calls(0, 3) = 0", "mark(2, true) = true",
                 "calls(0, 3) = 0", "mark(3, true) = true", "calls(0, 3) = 3", "count(6) = 1");
+        // all of it: the last bird's call in the last hour, the last one's debt
+        run(FullBoundaries.HOUSE).due("call(4, 23, 7) = true", "call(4, 0, 2) = true", "shoot(4, true) = true", "told(5, 9) = true", "mark(1, false) = true", "call(4, 23, 1) = true",
+                "call(4, 0, 0) = true", "shoot(4, false) = true", "told(5, -1) = true", "mark(1, true) = true", "calls(4, 23) = 7", "calls(4, 0) = 2", "bird(4, 1) = 1", "count(6) = 1", "sang(0) = 0");
         // one may be laid anew, and holds what is there then
         run.due("call(0, 3, 9) = true", "mark(3, false) = true", "call(0, 3, 1) = true", "mark(3, true) = true", "calls(0, 3) = 9", "mark(0, true) = true", "calls(0, 3) = 4");
         sentence(24, "(nothing can be undone when one is gone back to).");

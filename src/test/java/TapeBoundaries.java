@@ -15,6 +15,7 @@ final class TapeBoundaries extends Boundary {
         beyond1000();
         howMany();
         most1000();
+        lastSign();
         isEmptyThen();
         tokens();
         blanks();
@@ -122,6 +123,17 @@ final class TapeBoundaries extends Boundary {
         anew().feed(" ".repeat(998)).due("feed(0x001f7f80ff090b20, 0x0020, 0x003f) = 1000", "hills() = " + (1 + 16 * 1000));
     }
 
+    private static void lastSign() {
+        sentence(3, "The TAPE has at most 1,000 signs");
+        anew().feed("hills 2" + " ".repeat(992) + "2").due("count(8) = 1000", "hills() = " + (1 + 16 * 1000));
+        anew().feed("hills 2" + " ".repeat(992) + "1").due("hills() = " + (4 + 16 * 999));
+        anew().feed("hills 2 2;" + " ".repeat(987) + "owe").due("count(8) = 1000", "hills() = " + (1 + 16 * 1000));
+        anew().feed("hills 2 2;" + " ".repeat(989) + "+").due("count(8) = 1000", "hills() = " + (1 + 16 * 999));
+        anew().feed("hills 2 2;" + " ".repeat(990)).due("count(8) = 1000", "hills() = 0");
+        fault(1, "@" + "a".repeat(1000));
+        fault(1, "@" + "1".repeat(1000));
+    }
+
     private static void howMany() {
         sentence(2, "how many there are");
         anew().due("feed(0x0061, 0x6200, 0x630064) = 4", "count(8) = 4", "feed(0, 0, 0) = 4", "feed(0x7f, 0x80, 0x1f) = 4",
@@ -146,6 +158,10 @@ final class TapeBoundaries extends Boundary {
         run.due("hills() = 1", "count(8) = 0", "count(0) = 5");
         run.feed("hills 7").due("count(8) = 7", "hills() = " + (1 + 16 * 7), "count(8) = 0").feed(" 7;").due("hills() = 17", "count(0) = 5");
         run.feed("hills 3 4;").due("hills() = 0", "count(0) = 3");
+        // what stood behind where a text ends now is gone with what was read
+        run.feed("hills 2 22;").due("hills() = " + (4 + 16 * 8)).feed("hills 2 2").due("hills() = " + (1 + 16 * 9));
+        run.feed("hillsss").due("hills() = 1").feed("hills").due("hills() = " + (1 + 16 * 5));
+        run.feed("hills 2 2   ;").due("hills() = 0").feed("hills 2 2 ").due("hills() = " + (1 + 16 * 10)).feed("hills 3 4;").due("hills() = 0");
         // a full one has room again, whether it was read without a fault or with one
         run.feed("hills 6 6" + " ".repeat(990) + ";").due("count(8) = 1000", "hills() = 0", "count(8) = 0", "count(0) = 6");
         run.feed("?".repeat(1001)).due("count(8) = 1000", "hills() = 1", "count(8) = 0").feed("hills 2 8;").due("hills() = 0", "count(1) = 8");

@@ -1416,7 +1416,6 @@ public final class CuckooDebt {
     /** What birds may have sung, by what people say that they owe. */
     private static final class Songs {
         static final int MOST_SUNG = 5;
-        static final int ALL = Integer.MAX_VALUE;
 
         private final Land land;
         private final Deeds deeds;
@@ -1436,7 +1435,8 @@ public final class CuckooDebt {
         }
 
         int countRows(int hour) {
-            findRow(hour, ALL);
+            // No row is the one before the first: all are gone through.
+            findRow(hour, NONE);
             return found;
         }
 
